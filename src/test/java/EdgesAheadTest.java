@@ -190,6 +190,14 @@ public final class EdgesAheadTest {
         Check.due("nobody: swap(20, 0)", Check.night("W5000B90B90").swap(20, 0), 0);
         Check.due("nobody: swap(20, 1)", Check.night("W5000B90B90").swap(20, 1), 99);
         Check.due("one alone", Check.night("W5000P0B90").swap(20, 1), 99);
+        // Nobody but those there are can come in, and nobody of a night ahead: two throws of a child's 2 pints.
+        BucketChain children = Check.night("W5009P0P0P0P0P0B90");
+        for (int people = 1; people <= 4; people++) {
+            Check.tell(children, "W5009" + "P3".repeat(people) + "B90");
+            children.night();
+            Check.due(people + " alike: swap(20, 0)", children.swap(20, 0), 4);
+            Check.due(people + " alike: swap(20, 1)", children.swap(20, 1), 99);
+        }
         Check.due("no BUCKET: swap(20, 0)", Check.night("W5000P0P1P2").swap(20, 0), 0);
         Check.due("no BUCKET: swap(20, 1)", Check.night("W5000P0P1P2").swap(20, 1), 99);
     }
