@@ -28,6 +28,13 @@ final class Doc {
         return text.replace("```text", " ").replace("```", " ").replaceAll("\\s+", " ").trim();
     }
 
+    /** The listing of constants and calls. */
+    static String face() {
+        int from = WHOLE.indexOf("```java");
+        int end = from < 0 ? -1 : WHOLE.indexOf("\n```", from);
+        return end < 0 ? "" : WHOLE.substring(from + "```java".length(), end);
+    }
+
     /** What stands below the heading of "Terms" or of "Promise 7", without the call's own line. */
     static String part(String name) {
         String heading = name.equals("Terms") ? "\n## Terms\n" : "\n## " + name + ":";

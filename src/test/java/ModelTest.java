@@ -4,6 +4,9 @@ import java.util.Random;
 public final class ModelTest {
     private static final int RUNS = 1500;
     private static final int CALLS = 150;
+    // Some runs go on to the last call that an object is promised for.
+    private static final int LONG_RUN_EVERY = 20;
+    private static final int LAST_CALL = 512;
 
     private final Random random;
     private final BucketChain chain = new BucketChain();
@@ -86,7 +89,8 @@ public final class ModelTest {
 
     private void play(int run) {
         tell(someNight());
-        for (int call = 0; call < CALLS && spent < 440; call++) {
+        boolean isLong = run % LONG_RUN_EVERY == 0;
+        for (int call = 0; call < (isLong ? LAST_CALL : CALLS) && spent < 420; call++) {
             String name = "run " + run + ", call " + call;
             int kind = random.nextInt(100);
             if (kind < 45) {
@@ -100,6 +104,9 @@ public final class ModelTest {
             }
         }
         everything("run " + run + ", at its end");
+        while (isLong && spent < LAST_CALL) {
+            act("run " + run + ", call " + spent);
+        }
     }
 
     private void act(String name) {

@@ -22,13 +22,16 @@ public final class RulesTest {
         "int judge(int,long)", "int share(int,boolean)", "int see(int,int,int)", "int unsee()", "int fires(int)",
         "int rests(int,int,int)", "int falls(int,int,boolean)", "long seed(long)", "int nights(int)",
         "int keep(int)", "int again(int)"};
+    private static final Path SOURCE = Path.of("src/main/java/BucketChain.java");
     private static final int[] WILD = {
         Integer.MIN_VALUE, -101, -10, -9, -1, 0, 1, 2, 4, 5, 8, 9, 14, 31, 32, 36, 41, 99, 100, 255, Integer.MAX_VALUE};
 
     public static void main(String[] args) throws IOException {
         face();
+        faceOfDocument();
         names();
         words();
+        lengths();
         wildArguments();
         noObjects();
         Check.end();
@@ -66,6 +69,24 @@ public final class RulesTest {
         Check.due("the class", BucketChain.class.getModifiers(), Modifier.PUBLIC | Modifier.FINAL);
     }
 
+    /** The listing ahead of the document's Terms, line by line: names, types and numbers. */
+    private static void faceOfDocument() throws IOException {
+        if (!Doc.isThere()) {
+            return;
+        }
+        String source = Files.readString(SOURCE);
+        int calls = 0;
+        for (String line : Doc.face().split("\n")) {
+            String told = line.trim();
+            if (told.startsWith("public")) {
+                String head = told.endsWith(");") ? told.replace(";", " {") : told;
+                Check.due("the program has " + head, source.contains(head + "\n") ? 1 : 0, 1);
+                calls += told.endsWith(");") ? 1 : 0;
+            }
+        }
+        Check.due("calls of the document, and the constructor", calls, FACE.length + 1);
+    }
+
     private static void names() {
         TreeSet<String> open = new TreeSet<>();
         for (String method : FACE) {
@@ -88,7 +109,7 @@ public final class RulesTest {
     }
 
     private static void words() throws IOException {
-        String source = Files.readString(Path.of("src/main/java/BucketChain.java"));
+        String source = Files.readString(SOURCE);
         String code = source.replaceAll("(?s)/\\*.*?\\*/", " ").replaceAll("//[^\n]*", " ");
         Pattern banned = Pattern.compile("\\b(throw|throws|try|catch|finally|synchronized|assert|import|package|var"
             + "|Object|Random|System\\.(?!arraycopy)\\w+|\\w+Exact|hashCode|toString|getClass|protected|native"
@@ -98,6 +119,18 @@ public final class RulesTest {
             Check.due("'" + found.group() + "' stands in the program", 1, 0);
         }
         Check.due("signs 1 to 127 alone", source.chars().allMatch(c -> c > 0 && c < 128) ? 1 : 0, 1);
+    }
+
+    /** Methods stay short: some sixty lines. */
+    private static void lengths() throws IOException {
+        Matcher found = Pattern.compile("(?ms)^( {4}| {8})(?! )([^\n]*\\) \\{)\n(.*?)^\\1\\}$")
+            .matcher(Files.readString(SOURCE));
+        int methods = 0;
+        while (found.find()) {
+            methods++;
+            Check.due("lines of " + found.group(2), found.group(3).lines().count() <= 60 ? 1 : 0, 1);
+        }
+        Check.due("methods were found: " + methods, methods > FACE.length ? 1 : 0, 1);
     }
 
     private static BucketChain someNight(int which) {
